@@ -185,6 +185,7 @@ public final class PromisesTest {
         worth("good 1 h=2&h=2|h=0&h=1|h=1", 0, 1, 1);
         worth("good 1 !(!(h=0|h=1)&!h=0)&h<1|(h=2)", 1, 0, 1);
         worth("good 9 h=0;harm 3 h<2;good 20 h=2;note 3;harm 1 h=2", 6, -3, 19);
+        worth("good 1 h=0;good 2 h=1;good 3 h=2;good 4 h=0;good 5 h=1;good 6 h=2;good 7 h=0;good 9 h<2", 21, 16, 9);
     }
 
     private static void worth(String text, int first, int second, int third) {
