@@ -35,10 +35,9 @@ public final class DayKnown {
     private boolean isSaved;
     private final Town noTown = new Town();
     private final Town[] towns = new Town[MOST_TOWNS];
-    private final Worths worths = new Worths();
-    private final Days now = new Days(held.folk, worths);
+    private final Days now = new Days(held.folk);
     // What the days would be if something were otherwise, or come later.
-    private final Days then = new Days(new Folk(), worths);
+    private final Days then = new Days(new Folk());
     private final int[] path = new int[LONGEST_AGAIN + 1];
     private final Acts acts = new Acts();
 
@@ -73,7 +72,7 @@ public final class DayKnown {
             return FAULT_BASE - fault;
         }
         held.towns++;
-        forgetTown();
+        forgetTowns();
         return number;
     }
 
@@ -434,7 +433,7 @@ public final class DayKnown {
             return STATE;
         }
         held.become(saved);
-        forgetTown();
+        forgetTowns();
         return held.folk.people;
     }
 
@@ -491,9 +490,9 @@ public final class DayKnown {
         return towns[newest];
     }
 
-    private void forgetTown() {
-        worths.forget();
-        now.forget();
+    private void forgetTowns() {
+        now.forgetTown();
+        then.forgetTown();
     }
 
     private void searchNow() {
@@ -872,55 +871,26 @@ public final class DayKnown {
     }
 
     /**
-     * What doing it is worth in the town that holds: a row for each number and kind of one, filled when first
-     * asked for. The place in a row tells the case: the hour, how many others do it in it, how many do it in the
-     * hour ahead, and y.
-     */
-    private static final class Worths {
-        private static final int COUNTS = MOST_PEOPLE;
-        private static final int CASES = HOURS * COUNTS * COUNTS * 2;
-
-        private final int[][] rows = new int[MOST_PEOPLE * KINDS][CASES];
-        private final boolean[] filled = new boolean[MOST_PEOPLE * KINDS];
-        // In the order of the letters: h, p, m, n, y, k.
-        private final int[] facts = new int[6];
-
-        private void forget() {
-            for (int i = 0; i < filled.length; i++) {
-                filled[i] = false;
-            }
-        }
-
-        private void fill(int person, int kind, Town town) {
-            int i = person * KINDS + kind;
-            if (i < 0 || i >= filled.length || filled[i]) {
-                return;
-            }
-            facts[1] = person;
-            facts[5] = kind;
-            for (int place = 0; place < CASES; place++) {
-                facts[0] = place / (2 * COUNTS * COUNTS);
-                facts[3] = place / (2 * COUNTS) % COUNTS;
-                facts[2] = place / 2 % COUNTS;
-                facts[4] = place % 2;
-                rows[i][place] = town.worth(facts);
-            }
-            filled[i] = true;
-        }
-    }
-
-    /**
      * What folk would do, remembering each day, and which days stand. All that a day tells one is a SIGHT:
      * bits 0 to 2 its own hours, then two bits an hour: how many others do it.
      */
     private static final class Days {
         private static final int SIGHTS = ROWS << 2 * HOURS;
+        // None of the others up to all of them: as many counts as there are people.
+        private static final int COUNTS = MOST_PEOPLE;
+        private static final int CASES = HOURS * COUNTS * COUNTS * 2;
         // One hour's bits of all the people.
         private static final int ALL_AT_HOUR = 1 | 1 << HOURS | 1 << 2 * HOURS | 1 << 3 * HOURS;
 
         private final Folk folk;
-        private final Worths worths;
-        private final int[][] reply = new int[MOST_PEOPLE][SIGHTS];
+        // What doing it is worth to one in each case: the hour, others in it, others in the hour ahead, and y.
+        private final int[][] worths = new int[MOST_PEOPLE][CASES];
+        // The kind for which the worths of each were worked out, NONE for those that are stale.
+        private final int[] worthsKind = new int[MOST_PEOPLE];
+        // In the order of the letters: h, p, m, n, y, k.
+        private final int[] facts = new int[6];
+        // What one would do at each sight: by the others' counts, the rows for each of its own eight.
+        private final int[][] replies = new int[MOST_PEOPLE][SIGHTS / ROWS];
         private boolean isPrepared;
         private boolean isSearched;
         private int stood;
@@ -929,14 +899,23 @@ public final class DayKnown {
         private int chosen;
         private int chosenGain;
 
-        private Days(Folk folk, Worths worths) {
-            this.folk = folk;
-            this.worths = worths;
+        private Days(Folk itsFolk) {
+            folk = itsFolk;
+            for (int person = 0; person < MOST_PEOPLE; person++) {
+                worthsKind[person] = NONE;
+            }
         }
 
         private void forget() {
             isPrepared = false;
             isSearched = false;
+        }
+
+        private void forgetTown() {
+            forget();
+            for (int person = 0; person < MOST_PEOPLE; person++) {
+                worthsKind[person] = NONE;
+            }
         }
 
         /** Works out what each would do at each sight; due ahead of all that is asked of the days. */
@@ -945,13 +924,38 @@ public final class DayKnown {
                 return;
             }
             for (int person = 0; person < folk.people && person < MOST_PEOPLE; person++) {
-                worths.fill(person, folk.kind[person], town);
+                fillWorths(person, town);
                 int past = sightOf(person, folk.yesterday);
-                for (int sight = 0; sight < SIGHTS; sight++) {
-                    reply[person][sight] = rowAt(person, sight, past);
+                for (int counts = 0; counts < SIGHTS / ROWS; counts++) {
+                    int rows = 0;
+                    int row = 0;
+                    for (int own = 0; own < ROWS; own++) {
+                        // To one who does what is best, it does not matter what it is told to do itself.
+                        if (own == 0 || folk.kind[person] != BEST) {
+                            row = rowAt(person, counts * ROWS + own, past);
+                        }
+                        rows |= row << HOURS * own;
+                    }
+                    replies[person][counts] = rows;
                 }
             }
             isPrepared = true;
+        }
+
+        private void fillWorths(int person, Town town) {
+            if (person < 0 || person >= MOST_PEOPLE || worthsKind[person] == folk.kind[person]) {
+                return;
+            }
+            facts[1] = person;
+            facts[5] = folk.kind[person];
+            for (int place = 0; place < CASES; place++) {
+                facts[0] = place / (2 * COUNTS * COUNTS);
+                facts[3] = place / (2 * COUNTS) % COUNTS;
+                facts[2] = place / 2 % COUNTS;
+                facts[4] = place % 2;
+                worths[person][place] = town.worth(facts);
+            }
+            worthsKind[person] = folk.kind[person];
         }
 
         private int sightOf(int person, int day) {
@@ -970,10 +974,8 @@ public final class DayKnown {
             // In a sight the counts of the hour ahead and of this one stand side by side, as in a place.
             int counts = hour == 0 ? sight >> HOURS << 2 & 12 : sight >> HOURS + 2 * (hour - 1) & 15;
             int y = (hour == 0 ? folk.notes >> person : sight >> hour - 1) & 1;
-            int place = (hour * 16 + counts) * 2 + y;
-            int row = person * KINDS + folk.kind[person];
-            boolean isThere = row >= 0 && row < worths.rows.length && place >= 0 && place < Worths.CASES;
-            return isThere ? worths.rows[row][place] : 0;
+            int place = (hour * COUNTS * COUNTS + counts) * 2 + y;
+            return place >= 0 && place < CASES ? worths[person][place] : 0;
         }
 
         private int gain(int person, int sight) {
@@ -992,9 +994,7 @@ public final class DayKnown {
                 return folk.row[person];
             }
             if (kind == BEST) {
-                // What it did itself does not matter to it: the sight without that came ahead of this one.
-                int bare = sight & -ROWS;
-                return sight == bare ? bestRow(person, bare) : reply[person][bare];
+                return bestRow(person, sight);
             }
             int row = 0;
             for (int hour = 0; hour < HOURS; hour++) {
@@ -1005,7 +1005,8 @@ public final class DayKnown {
             return row;
         }
 
-        private int bestRow(int person, int bare) {
+        private int bestRow(int person, int sight) {
+            int bare = sight & -ROWS;
             int best = 0;
             // Doing nothing gains 0.
             int most = 0;
@@ -1037,7 +1038,11 @@ public final class DayKnown {
         }
 
         private int answerOf(int person, int day) {
-            return folk.has(person) ? reply[person][sightOf(person, day)] : 0;
+            if (!folk.has(person)) {
+                return 0;
+            }
+            int sight = sightOf(person, day);
+            return replies[person][sight / ROWS] >> HOURS * (sight & ROWS - 1) & ROWS - 1;
         }
 
         private int answer(int day) {
