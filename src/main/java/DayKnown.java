@@ -293,6 +293,7 @@ public final class DayKnown {
         searchNow();
         int does = now.stoodWith(HOURS * person + hour);
         if (does == 0) {
+            // 0 by 1.
             return part;
         }
         int common = commonDivisor(does, now.stood);

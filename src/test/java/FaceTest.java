@@ -11,10 +11,10 @@ import java.util.regex.Pattern;
 
 /** The public face as the document has it, and what LANGUAGE.md rules out that can be seen from outside. */
 public final class FaceTest {
-    private static final String FACE = "feed(int) town() told(int) person(int,int) of(int,int) row(int,int) note(int,boolean)"
-        + " yesterday(int) by(int,int,int,int) day(int,int) all(int) once(int,int,int,int) again(int,int) morning()"
-        + " year(int,int) bet(int,int,int) sure() secret(int,int) swap(int) book(int) looked(int) act(int,int,int)"
-        + " trace(int) as(int,int) image() undo() count(int)";
+    private static final String FACE = "feed(int) town() told(int) person(int,int) of(int,int) row(int,int)"
+        + " note(int,boolean) yesterday(int) by(int,int,int,int) day(int,int) all(int)"
+        + " once(int,int,int,int) again(int,int) morning() year(int,int) bet(int,int,int) sure()"
+        + " secret(int,int) swap(int) book(int) looked(int) act(int,int,int) trace(int) as(int,int) image() undo() count(int)";
 
     public static void main(String[] args) throws IOException {
         face();
@@ -82,8 +82,8 @@ public final class FaceTest {
 
     private static void text(String source) {
         String code = source.replaceAll("(?s)/\\*.*?\\*/", "").replaceAll("//[^\n]*", "");
-        String[] out = {"\\b(throw|throws|try|catch|synchronized|assert|import|package|instanceof|protected)\\b", "->", "::",
-            "\\b(Random|Thread|equals|hashCode|toString)\\b", "Exact\\b", "\\bstatic\\s*\\{"};
+        String[] out = {"\\b(throw|throws|try|catch|synchronized|assert|import|package|instanceof|protected)\\b",
+            "->", "::", "\\b(Random|Thread|equals|hashCode|toString)\\b", "Exact\\b", "\\bstatic\\s*\\{"};
         for (String one : out) {
             Due.holds("there is no " + one, !Pattern.compile(one).matcher(code).find());
         }

@@ -161,8 +161,9 @@ public final class PromisesTest {
         Due.is("3 eight clauses", Due.town(new DayKnown(), eight), 0);
         fault(eight + ";", 55);
         fault(eight + ";note 1", 55);
-        fault("good 1 n=1|n=1|n=1|n=1|n=1|n=1|n=1|n=1|n=1|n=1|n=1|n=1|n=1|n=1|n=1|n=1|n=1|n=1|n=1|n=1|n=1|n=1|n=1|", 99);
-        fault("good 10 n=1|n=1|n=1|n=1|n=1|n=1|n=1|n=1|n=1|n=1|n=1|n=1|n=1|n=1|n=1|n=1|n=1|n=1|n=1|n=1|n=1|n=1|n=1|", 100);
+        String long92 = "n=1|n=1|n=1|n=1|n=1|n=1|n=1|n=1|n=1|n=1|n=1|n=1|n=1|n=1|n=1|n=1|n=1|n=1|n=1|n=1|n=1|n=1|n=1|";
+        fault("good 1 " + long92, 99);
+        fault("good 10 " + long92, 100);
     }
 
     private static void townBrackets() {
