@@ -24,6 +24,7 @@ public final class PromisesTest {
         day();
         all();
         once();
+        onceAtItsEnd();
         again();
         morning();
         year();
@@ -442,6 +443,25 @@ public final class PromisesTest {
         Due.is("13 none: what", x.once(-1, 0, 0, 2), -1);
         Due.is("13 bad", x.once(64, 0, 0, 0), -2);
         Due.is("13 bad", x.once(-1, 0, 0, 1), -2);
+    }
+
+    private static void onceAtItsEnd() {
+        DayKnown x = people("harm 1 m>1&y=1|n=1;good 8 n<1&y=1;good 2 p>1|n=1&!p>1;harm 7 n=2;harm 7 n>0&y=1",
+            0, 0, 1, 2, 1, 2, 4, 3);
+        int[] days = new int[79];
+        days[0] = 620;
+        for (int i = 0; i < 78; i++) {
+            Due.holds("11 day " + i + " of a long chain", x.day(days[i], 0) >= 0);
+            days[i + 1] = x.day(days[i], 1);
+        }
+        Due.is("11 a long chain ends", x.day(days[78], 0), -5);
+        Due.is("13 60 days on", x.once(days[18] ^ 1, 0, 0, 0), 60);
+        Due.is("13 60 days on, which", x.once(days[18] ^ 1, 0, 0, 1), days[78]);
+        Due.is("13 59 days on", x.once(days[19] ^ 2048, 3, 2, 0), 59);
+        Due.is("13 61 days on", x.once(days[17] ^ 1, 0, 0, 0), -5);
+        Due.is("13 61 days on, which", x.once(days[17] ^ 1, 0, 0, 1), -5);
+        Due.is("14 79 days on", x.again(620, 0), 79);
+        Due.is("14 79 days on, how many from then", x.again(620, 1), 1);
     }
 
     private static void again() {
