@@ -2,15 +2,21 @@
 final class Due {
     private static int asked;
     private static int wrong;
+    private static String sentence = "";
 
     private Due() {
+    }
+
+    /** The document's words that the answers after this one are about. */
+    static void says(String words) {
+        sentence = "[" + words + "] ";
     }
 
     static void is(String call, long got, long want) {
         asked++;
         if (got != want) {
             wrong++;
-            System.out.println(call + " answered " + got + ", due is " + want);
+            System.out.println(sentence + call + " answered " + got + ", due is " + want);
         }
     }
 
@@ -38,6 +44,15 @@ final class Due {
     static DayKnown in(String text) {
         DayKnown x = new DayKnown();
         town(x, text);
+        return x;
+    }
+
+    /** An object with the town of a text (none, if it is empty), and people: the kind and the v of each. */
+    static DayKnown people(String text, int... kindsAndVs) {
+        DayKnown x = text.isEmpty() ? new DayKnown() : in(text);
+        for (int i = 0; i + 1 < kindsAndVs.length; i += 2) {
+            x.person(kindsAndVs[i], kindsAndVs[i + 1]);
+        }
         return x;
     }
 }

@@ -1,6 +1,3 @@
-import java.util.ArrayList;
-import java.util.List;
-
 /** Each promise by hand: ordinary inputs, the edges that the document names, and wrong inputs. */
 public final class PromisesTest {
     private static final int MIN = Integer.MIN_VALUE;
@@ -29,7 +26,6 @@ public final class PromisesTest {
         once();
         onceAtItsEnd();
         again();
-        againFarOn();
         morning();
         year();
         bet();
@@ -49,11 +45,7 @@ public final class PromisesTest {
     }
 
     private static DayKnown people(String text, int... kindsAndVs) {
-        DayKnown x = text.isEmpty() ? new DayKnown() : Due.in(text);
-        for (int i = 0; i + 1 < kindsAndVs.length; i += 2) {
-            x.person(kindsAndVs[i], kindsAndVs[i + 1]);
-        }
-        return x;
+        return Due.people(text, kindsAndVs);
     }
 
     private static void newObject() {
@@ -481,21 +473,6 @@ public final class PromisesTest {
         Due.is("14 none", x.again(0, -1), -1);
         Due.is("14 bad", x.again(64, 0), -2);
         Due.is("14 bad", x.again(MIN, 1), -2);
-    }
-
-    // The longest way known to a day that was there; none is known that gets near 200.
-    private static void againFarOn() {
-        DayKnown x = people("good 1 p<2&y=1&n<1;good 4 n=2&!y=1;harm 2 m=1|m<1&p<2;good 5 p<2&n<1;harm 3 m>2&m>2;"
-            + "good 5 y=1&n=1", 0, 1, 1, 2, 0, 0, 1, 1);
-        List<Integer> days = new ArrayList<>();
-        int day = 3031;
-        while (!days.contains(day)) {
-            days.add(day);
-            day = x.day(day, 1);
-        }
-        Due.is("14 days that differ", days.size(), 170);
-        Due.is("14 170 days on", x.again(3031, 0), 170);
-        Due.is("14 170 days on, how many from then", x.again(3031, 1), 170 - days.indexOf(day));
     }
 
     private static void morning() {
