@@ -64,6 +64,7 @@ public final class BoundsTest {
         kindsAbove();
         images();
         imageOfTowns();
+        callsUpTo512();
         Due.end();
     }
 
@@ -1211,5 +1212,33 @@ public final class BoundsTest {
         Due.is("a fault", Due.town(x, "good 5 h=0;"), -21);
         Due.is("no worth", x.by(0, 0, 0, 0), 0);
         Due.is("the one that held", x.told(0), 7);
+    }
+
+    private static void callsUpTo512() {
+        Due.says("An object is used for at most 512 calls after it has been made");
+        String text = "good 2 n>0;harm 1 h=1;note 3";
+        DayKnown x = Due.people(text, DOER, 0, DOER, 0, DOER, 0, DOER, 0);
+        int calls = text.length() + 1 + 4;
+        for (int turn = 0; calls + 12 <= 512; turn++) {
+            int person = turn % 4;
+            Due.is("image", x.image(), 4);
+            Due.is("note", x.note(person, true), 0);
+            Due.is("yesterday", x.yesterday(turn), 0);
+            Due.is("morning", x.morning(), 4095);
+            Due.is("notes", x.told(2), 15);
+            Due.is("year", x.year(30, 0), 30 * 4 * 5);
+            Due.is("sure", x.sure(), 1);
+            Due.is("secret", x.secret(person, 1), 0);
+            Due.is("swap", x.swap(0), 0);
+            Due.is("act", x.act(person, 2, turn), 2 * (turn + person));
+            Due.is("book", x.book(turn), 1);
+            Due.is("undo", x.undo(), 4);
+            calls += 12;
+        }
+        while (calls < 511) {
+            Due.is("fill", x.count(0), 4);
+            calls++;
+        }
+        Due.is("the last of 512", x.all(3), 4095);
     }
 }
