@@ -328,6 +328,8 @@ public final class BoundsTest {
         worths("good 1 h>0", 0, 1, 1);
         worths("good 1 h>1", 0, 0, 1);
         worths("good 1 h>2", 0, 0, 0);
+        worths("good 1 h<3&!h<0", 1, 1, 1);
+        worths("good 1 h=0&h<3", 1, 0, 0);
         fault("good 1 h!1", 8);
         fault("good 1 h<=1", 9);
         fault("good 1 h==1", 9);
@@ -1057,6 +1059,8 @@ public final class BoundsTest {
         never.book(0);
         Due.is("day 0 doesn't", never.looked(1), 0);
         Due.is("day 0 doesn't", never.looked(0), 0);
+        never.book(1);
+        Due.is("day 0 is the first that doesn't", never.looked(1), 0);
         Due.is("no such what", never.looked(2), -1);
         Due.is("no such what", never.looked(-1), -1);
     }

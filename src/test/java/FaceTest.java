@@ -14,7 +14,8 @@ public final class FaceTest {
     private static final String FACE = "feed(int) town() told(int) person(int,int) of(int,int) row(int,int)"
         + " note(int,boolean) yesterday(int) by(int,int,int,int) day(int,int) all(int)"
         + " once(int,int,int,int) again(int,int) morning() year(int,int) bet(int,int,int) sure()"
-        + " secret(int,int) swap(int) book(int) looked(int) act(int,int,int) trace(int) as(int,int) image() undo() count(int)";
+        + " secret(int,int) swap(int) book(int) looked(int) act(int,int,int) trace(int) as(int,int)"
+        + " image() undo() count(int)";
 
     public static void main(String[] args) throws IOException {
         face();
