@@ -65,7 +65,20 @@ public final class FaceTest {
         privateNames(DayKnown.class, names);
         for (Class<?> one : DayKnown.class.getDeclaredClasses()) {
             Due.holds(one + " is static", Modifier.isStatic(one.getModifiers()));
+            allPrivate(one);
             privateNames(one, names);
+        }
+    }
+
+    private static void allPrivate(Class<?> in) {
+        for (Method method : in.getDeclaredMethods()) {
+            Due.holds(method + " is private", Modifier.isPrivate(method.getModifiers()));
+        }
+        for (Field field : in.getDeclaredFields()) {
+            Due.holds(field + " is private", Modifier.isPrivate(field.getModifiers()));
+        }
+        for (Constructor<?> made : in.getDeclaredConstructors()) {
+            Due.holds(made + " is private", Modifier.isPrivate(made.getModifiers()));
         }
     }
 
